@@ -1,79 +1,81 @@
-import java.util.Arrays;
-
 /** order: by the variables' number, then weight, then the first symbol, then the first terms that differ. */
 public final class Promise05OrderTest {
-    private static final int A = 0;
-    private static final int B = 1;
-    private static final int F = 2;
-    private static final int G = 3;
-    private static final int H = 4;
-    private static final int X = -1;
-    private static final int Y = -2;
-
     public static void main(String[] args) {
-        dueOrder(3, terms(X), terms(X));
-        dueOrder(0, terms(X), terms(Y));
-        dueOrder(3, terms(G, X, F, A), terms(G, X, F, A));
+        due(3, "x", "x");
+        due(0, "x", "y");
+        due(3, "g(x, f(a))", "g(x, f(a))");
         weight();
         variables();
         firstSymbol();
         termsThatDiffer();
-        wrongSlots();
         predicatesAreSymbolsLikeOthers();
+        wrongSlots();
         Check.end();
     }
 
     private static void weight() {
-        dueOrder(1, terms(F, A), terms(B));
-        dueOrder(1, terms(F, A), terms(A));
-        dueOrder(1, terms(F, X), terms(X));
-        dueOrder(1, terms(F, X), terms(A));
+        due(1, "f(a)", "b");
+        due(1, "f(a)", "a");
+        due(1, "f(x)", "x");
+        due(1, "f(x)", "a");
+        due(0, "a", "x");
+        due(0, "b", "y");
         // The heavier one is greater though its first symbol is less.
-        dueOrder(1, terms(F, F, F, A), terms(H, B, B));
-        dueOrder(0, terms(A), terms(X));
-        dueOrder(0, terms(B), terms(Y));
+        due(1, "f(f(f(a)))", "h(b, b)");
+        due(1, "f^99(x)", "f^98(x)");
     }
 
     private static void variables() {
-        dueOrder(0, terms(F, X), terms(Y));
-        dueOrder(0, terms(F, F, F, F, X), terms(G, X, X));
-        dueOrder(1, terms(F, G, X, X), terms(G, X, X));
-        dueOrder(1, terms(G, X, F, Y), terms(G, Y, X));
-        dueOrder(0, terms(G, X, F, X), terms(G, Y, X));
-        dueOrder(1, terms(G, X, X), terms(F, X));
-        dueOrder(1, terms(G, -6, F, -6), terms(F, -6));
+        due(0, "f(x)", "y");
+        due(0, "f(f(f(f(x))))", "g(x, x)");
+        due(1, "f(g(x, x))", "g(x, x)");
+        due(1, "g(x, f(y))", "g(y, x)");
+        due(0, "g(x, f(x))", "g(y, x)");
+        due(1, "g(x, x)", "f(x)");
+        due(1, "g(w, f(w))", "f(w)");
+        due(0, "g(w, f(w))", "f(v)");
     }
 
     private static void firstSymbol() {
-        dueOrder(1, terms(B), terms(A));
-        dueOrder(1, terms(H, A, A), terms(G, B, B));
-        dueOrder(1, terms(H, X, Y), terms(G, Y, X));
-        dueOrder(0, terms(H, X, A), terms(G, Y, A));
-        dueOrder(1, terms(H, X, A), terms(G, A, A));
-        dueOrder(0, terms(H, A, A), terms(G, A, X));
+        due(1, "b", "a");
+        due(1, "h(a, a)", "g(b, b)");
+        due(1, "h(x, y)", "g(y, x)");
+        due(0, "h(x, a)", "g(y, a)");
+        due(1, "h(x, a)", "g(a, a)");
+        due(0, "h(a, a)", "g(a, x)");
     }
 
     private static void termsThatDiffer() {
-        dueOrder(1, terms(G, B, A), terms(G, A, B));
-        dueOrder(1, terms(G, A, B), terms(G, A, A));
-        dueOrder(1, terms(G, F, X, Y), terms(G, X, F, Y));
-        dueOrder(0, terms(G, X, Y), terms(G, Y, X));
-        dueOrder(0, terms(G, A, X), terms(G, X, A));
+        due(1, "g(b, a)", "g(a, b)");
+        due(1, "g(a, b)", "g(a, a)");
+        due(1, "g(f(x), y)", "g(x, f(y))");
+        due(0, "g(x, y)", "g(y, x)");
+        due(0, "g(a, x)", "g(x, a)");
         // The first that differ decide, not a later and greater one.
-        dueOrder(1, terms(G, F, A, A), terms(G, A, F, B));
-        dueOrder(1, terms(F, F, B), terms(F, F, A));
-        dueOrder(1, terms(F, G, X, F, B), terms(F, G, X, F, A));
+        due(1, "g(f(a), a)", "g(a, f(b))");
+        due(1, "f(f(b))", "f(f(a))");
+        due(1, "f(g(x, f(b)))", "f(g(x, f(a)))");
         // The whole has each variable as often, but the first terms that differ have not.
-        dueOrder(0, terms(G, F, X, Y), terms(G, Y, F, X));
-        dueOrder(0, terms(G, H, X, A, Y), terms(G, G, Y, A, X));
-        dueOrder(1, terms(G, H, X, Y, X), terms(G, G, Y, X, X));
+        due(0, "g(f(x), y)", "g(y, f(x))");
+        due(0, "g(h(x, a), y)", "g(g(y, a), x)");
+        due(0, "g(g(x, f(a)), g(y, x))", "g(g(y, a), f(g(x, x)))");
+        due(0, "g(g(x, y), g(y, x))", "g(g(y, x), g(x, y))");
+        due(1, "g(h(x, y), x)", "g(g(y, x), x)");
         // Deep inside: the terms round the difference have the same weight and symbol.
-        dueOrder(1, terms(G, X, G, F, A, A), terms(G, X, G, B, F, A));
-        dueOrder(1, terms(G, X, G, F, A, A), terms(G, X, G, B, A));
-        // The inner difference makes it 0 although the variables of the whole are even.
-        dueOrder(0, terms(G, G, X, Y, G, Y, X), terms(G, G, Y, X, G, X, Y));
-        dueOrder(1, Check.chain(99, F, B), Check.chain(99, F, A));
-        dueOrder(1, Check.chain(99, F, X), Check.chain(98, F, X));
+        due(1, "g(x, g(f(a), b))", "g(x, g(b, f(a)))");
+        due(1, "g(x, g(g(a, b), b))", "g(x, g(g(a, a), b))");
+        // Deep inside, a difference in weight goes before one in symbols.
+        due(1, "g(x, g(f(a), b))", "g(x, h(a, a))");
+        due(2, "g(x, g(f(a), b))", "g(x, h(b, f(a)))");
+        due(1, "f^99(b)", "f^99(a)");
+    }
+
+    private static void predicatesAreSymbolsLikeOthers() {
+        due(1, "p(a)", "f(a)");
+        due(1, "p(a)", "a");
+        due(1, "p(p(a))", "p(f(a))");
+        due(1, "f(f(a))", "p(a)");
+        due(1, "p(x)", "x");
     }
 
     private static void wrongSlots() {
@@ -85,36 +87,16 @@ public final class Promise05OrderTest {
         Check.due("order of the last slots", bench.order(15, 15), 3);
     }
 
-    private static void predicatesAreSymbolsLikeOthers() {
-        TermBench bench = new TermBench();
-        bench.symbol(0, false);
-        bench.symbol(1, true);
-        bench.symbol(1, false);
-        Check.keep(bench, 0, 0);
-        Check.keep(bench, 1, 1, 0);
-        Check.keep(bench, 2, 2, 0);
-        Check.keep(bench, 3, 1, 2, 0);
-        Check.keep(bench, 4, 1, 1, 0);
-        Check.due("order", bench.order(1, 0), 1);
-        Check.due("order", bench.order(1, 2), 2);
-        Check.due("order", bench.order(3, 4), 1);
-        Check.due("order", bench.order(2, 4), 2);
-    }
-
-    private static int[] terms(int... codes) {
-        return codes;
-    }
-
     /** Also the other way round, which a greater one turns. */
-    private static void dueOrder(int want, int[] first, int[] second) {
-        TermBench bench = Check.benchWith(0, 0, 1, 2, 2);
-        Check.keep(bench, 0, first);
-        Check.keep(bench, 1, second);
-        String what = Arrays.toString(first) + " to " + Arrays.toString(second);
+    private static void due(int want, String first, String second) {
+        TermBench bench = Terms.bench();
+        Terms.keep(bench, 0, first);
+        Terms.keep(bench, 1, second);
+        String what = first + " to " + second;
         Check.due("order of " + what, bench.order(0, 1), want);
         int turned = want == 1 ? 2 : want == 2 ? 1 : want;
         Check.due("order turned of " + what, bench.order(1, 0), turned);
-        Check.dueTerm("order leaves it", bench, 0, first);
-        Check.dueTerm("order leaves it", bench, 1, second);
+        Terms.due("order leaves it", bench, 0, first);
+        Terms.due("order leaves it", bench, 1, second);
     }
 }
