@@ -10,7 +10,7 @@ import java.util.NoSuchElementException;
  * answers is compared with what this answers.
  */
 final class Model {
-    /** Symbol below 0: a variable. The sons of a variable are none. */
+    /** A code below 0 is a variable, which has no sons. */
     static final class Node {
         final int code;
         final List<Node> sons;
@@ -212,7 +212,8 @@ final class Model {
 
     private static boolean occurs(int variable, Node in, Map<Integer, Node> values) {
         if (in.isVariable()) {
-            return in.code == variable || values.containsKey(in.code) && occurs(variable, values.get(in.code), values);
+            Node value = values.get(in.code);
+            return in.code == variable || value != null && occurs(variable, value, values);
         }
         for (Node son : in.sons) {
             if (occurs(variable, son, values)) {
@@ -399,6 +400,7 @@ final class Model {
     }
 
     int count(int what) {
-        return what == 0 ? terms.size() : what == 1 ? row.size() : what == 2 ? lacking(row) : what == 3 ? rewritten : -1;
+        int[] counts = {terms.size(), row.size(), lacking(row), rewritten};
+        return what >= 0 && what < counts.length ? counts[what] : -1;
     }
 }

@@ -109,11 +109,11 @@ public final class Promise06UnifyTest {
         String towers = fives("y") + "," + fives("z") + "," + fives("v") + "," + fives("w") + ", u";
         dueNone("g(k(x, y, u, v, x), g(z, w))", "g(k(" + towers + "), g(a, b))", false);
         dueTooLarge("g(k(x, y, u, v, x), g(z, w))", "g(k(" + towers + "), g(a, a))", false);
-        // Each of twelve variables has the next one nine times inside: more than an int can hold.
-        String a = "k(x," + nines("y") + ", y," + nines("z") + ", k(z," + nines("u") + ", u," + nines("v");
-        String b = "k(" + nines("x") + ", x," + nines("y") + ", y, k(" + nines("z") + ", z," + nines("u");
-        a += ", k(v," + nines("w") + ", w, a, a)))";
-        b += ", u, k(" + nines("v") + ", v," + nines("w") + ", a, ";
+        // Each of twelve variables has the next one seven times inside: as an int, the weight is below 0.
+        String a = "k(x," + sevens("y") + ", y," + sevens("z") + ", k(z," + sevens("u") + ", u," + sevens("v");
+        String b = "k(" + sevens("x") + ", x," + sevens("y") + ", y, k(" + sevens("z") + ", z," + sevens("u");
+        a += ", k(v," + sevens("w") + ", w, a, a)))";
+        b += ", u, k(" + sevens("v") + ", v," + sevens("w") + ", a, ";
         dueTooLarge(a, b + "a)))", true);
         dueNone(a, b + "b)))", true);
     }
@@ -122,8 +122,9 @@ public final class Promise06UnifyTest {
         return "k(" + String.join(",", term, term, term, term, term) + ")";
     }
 
-    private static String nines(String term) {
-        return "k(" + String.join(",", term, fives(term), term, term, term) + ")";
+    private static String sevens(String term) {
+        String two = "g(" + term + "," + term + ")";
+        return "k(" + String.join(",", term, two, term, two, term) + ")";
     }
 
     private static void slotsThatAreUsedTwice() {
