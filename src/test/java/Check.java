@@ -11,9 +11,30 @@ final class Check {
     static final Class<?> STATE = IllegalStateException.class;
     static final Class<?> ARGUMENT = IllegalArgumentException.class;
 
+    private static final int SECONDS = 300;
+
     private static int wrong = 0;
 
+    static {
+        endLateTests();
+    }
+
     private Check() {
+    }
+
+    /** A call that never ends is a fault, too: the test fails then and does not hang. */
+    private static void endLateTests() {
+        Thread watch = new Thread(() -> {
+            try {
+                Thread.sleep(SECONDS * 1000L);
+            } catch (InterruptedException e) {
+                return;
+            }
+            System.out.println("the test did not end within " + SECONDS + " seconds");
+            Runtime.getRuntime().halt(1);
+        });
+        watch.setDaemon(true);
+        watch.start();
     }
 
     static void due(String what, long got, long want) {
@@ -25,6 +46,13 @@ final class Check {
 
     static void due(String what, boolean got, boolean want) {
         due(what, got ? 1 : 0, want ? 1 : 0);
+    }
+
+    static void dueText(String what, String got, String want) {
+        if (!got.equals(want)) {
+            wrong++;
+            System.out.println(what + ": " + got + ", due is " + want);
+        }
     }
 
     static void dueThrow(String what, Class<?> want, Call call) {

@@ -53,10 +53,17 @@ public final class FaceTest {
         }
         Check.due("all of the face but " + due, due.size(), 0);
         for (Class<?> inside : TermBench.class.getDeclaredClasses()) {
-            Check.due("static: " + inside, Modifier.isStatic(inside.getModifiers()), true);
-            for (Method method : inside.getDeclaredMethods()) {
-                Check.due("no name of the face: " + method, names.contains(method.getName()), false);
-            }
+            boolean hidden = (inside.getModifiers() & (Modifier.PUBLIC | Modifier.PROTECTED)) == 0;
+            Check.due("private or package-visible: " + inside, hidden, true);
+            noPrivateNameOfTheFace(inside, names);
+        }
+        noPrivateNameOfTheFace(TermBench.class, names);
+    }
+
+    private static void noPrivateNameOfTheFace(Class<?> all, Set<String> names) {
+        for (Method method : all.getDeclaredMethods()) {
+            boolean borne = Modifier.isPrivate(method.getModifiers()) && names.contains(method.getName());
+            Check.due("a private method with a name of the face: " + method, borne, false);
         }
     }
 

@@ -12,6 +12,12 @@ public final class Promise01NewObjectTest {
         Check.dueThrow("put(0) without symbols", Check.NO_SUCH, () -> bench.put(0));
         Check.dueThrow("keep of an empty row", Check.STATE, () -> bench.keep(0));
         Check.dueThrow("bound without a match", Check.NO_SUCH, () -> bench.bound(0, 0));
+        for (int what = 0; what < 3; what++) {
+            Check.due("told(0, " + what + ")", bench.told(0, what), 1);
+        }
+        Check.dueThrow("put of variable 6", Check.NO_SUCH, () -> bench.put(-7));
+        Check.due("put of variable 5 without symbols", bench.put(-6), 0);
+        Check.due("the first symbol", bench.symbol(0, false), 0);
         twoObjectsShareNothing();
         Check.end();
     }

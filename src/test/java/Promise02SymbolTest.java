@@ -4,6 +4,8 @@ public final class Promise02SymbolTest {
         numbersAndTerms();
         wrongTerms();
         atMostForty();
+        fortyOfEachKind();
+        whileARowIsPutTogether();
         Check.end();
     }
 
@@ -31,6 +33,36 @@ public final class Promise02SymbolTest {
         }
         Check.due("count(0)", bench.count(0), 1);
         Check.due("the next", bench.symbol(5, false), 1);
+    }
+
+    /** Functions and predicates are counted together, whatever terms they have. */
+    private static void fortyOfEachKind() {
+        for (int kind = 0; kind < 12; kind++) {
+            int terms = kind / 2;
+            boolean predicate = kind % 2 == 1;
+            TermBench bench = new TermBench();
+            for (int number = 0; number < 40; number++) {
+                Check.due("symbol", bench.symbol(terms, predicate), number);
+            }
+            Check.dueThrow("a 41st of its kind", Check.STATE, () -> bench.symbol(terms, predicate));
+            Check.dueThrow("a 41st of another", Check.STATE, () -> bench.symbol(5 - terms, !predicate));
+            Check.due("count(0)", bench.count(0), 40);
+            Check.due("put(39)", bench.put(39), terms);
+        }
+    }
+
+    private static void whileARowIsPutTogether() {
+        TermBench bench = Check.benchWith(2);
+        bench.put(0);
+        Check.dueThrow("not yet there", Check.NO_SUCH, () -> bench.put(1));
+        Check.due("symbol", bench.symbol(1, true), 1);
+        Check.due("put(1)", bench.put(1), 2);
+        bench.put(-1);
+        Check.due("symbol", bench.symbol(0, false), 2);
+        Check.due("put(2)", bench.put(2), 0);
+        Check.due("symbol", bench.symbol(5, false), 3);
+        Check.due("keep", bench.keep(0), 4);
+        Check.dueTerm("kept", bench, 0, 0, 1, -1, 2);
     }
 
     private static void atMostForty() {

@@ -7,6 +7,7 @@ public final class Promise03PutTest {
         hundredCodesInAChain();
         roomForWhatLacks();
         wideTermThatJustFits();
+        roomForEachNumberOfTerms();
         Check.end();
     }
 
@@ -73,6 +74,43 @@ public final class Promise03PutTest {
             Check.due("put(2)", bench.put(2), i);
         }
         Check.due("keep", bench.keep(0), 100);
+    }
+
+    /** Behind n codes in a chain, a symbol with so many terms needs n + 1 + terms codes in all. */
+    private static void roomForEachNumberOfTerms() {
+        for (int terms = 0; terms <= 5; terms++) {
+            aHundredCodes(terms);
+        }
+        for (int terms = 1; terms <= 5; terms++) {
+            aHundredAndOneCodes(terms);
+        }
+    }
+
+    /** Symbol n has n terms. */
+    private static TermBench benchWithAChain(int length) {
+        TermBench bench = Check.benchWith(0, 1, 2, 3, 4, 5);
+        for (int i = 0; i < length; i++) {
+            Check.due("put(1)", bench.put(1), 1);
+        }
+        return bench;
+    }
+
+    private static void aHundredCodes(int terms) {
+        TermBench bench = benchWithAChain(99 - terms);
+        Check.due("put(" + terms + ")", bench.put(terms), terms);
+        for (int i = 1; i <= terms; i++) {
+            Check.dueThrow("a code more", Check.STATE, () -> bench.put(1));
+            Check.due("put(0)", bench.put(0), terms - i);
+        }
+        Check.due("keep", bench.keep(0), 100);
+    }
+
+    private static void aHundredAndOneCodes(int terms) {
+        TermBench bench = benchWithAChain(100 - terms);
+        Check.dueThrow("put(" + terms + ")", Check.STATE, () -> bench.put(terms));
+        Check.due("codes", bench.count(1), 100 - terms);
+        Check.due("lacking", bench.count(2), 1);
+        Check.due("put of one with a term less", bench.put(terms - 1), terms - 1);
     }
 
     private static void wideTermThatJustFits() {

@@ -6,7 +6,12 @@ public final class Promise05OrderTest {
         due(3, "g(x, f(a))", "g(x, f(a))");
         weight();
         variables();
+        eachVariableOnceLessOrAsOften();
+        noVariableIsGreater();
         firstSymbol();
+        eachSymbolAndTheNext();
+        symbolZeroIsASymbol();
+        innerTermsDecideLast();
         termsThatDiffer();
         predicatesAreSymbolsLikeOthers();
         wrongSlots();
@@ -34,6 +39,50 @@ public final class Promise05OrderTest {
         due(1, "g(x, x)", "f(x)");
         due(1, "g(w, f(w))", "f(w)");
         due(0, "g(w, f(w))", "f(v)");
+    }
+
+    /** "each VARIABLE is at least as often in s" */
+    private static void eachVariableOnceLessOrAsOften() {
+        for (String v : new String[] {"x", "y", "z", "u", "v", "w"}) {
+            due(1, "f(f(f(g(" + v + ", " + v + "))))", "g(" + v + ", " + v + ")");
+            due(0, "f(f(f(g(" + v + ", a))))", "g(" + v + ", " + v + ")");
+            due(1, "h(" + v + ", " + v + ")", "g(" + v + ", " + v + ")");
+            due(1, "h(" + v + ", " + v + ")", "g(" + v + ", a)");
+            due(0, "h(" + v + ", a)", "g(" + v + ", " + v + ")");
+            due(0, "f(" + v + ")", "f(a)");
+            due(1, "f(f(" + v + "))", "f(a)");
+        }
+        due(1, "f(g(k(x, y, z, u, v), w))", "g(w, k(v, u, z, y, x))");
+        due(0, "f(g(k(x, y, z, u, v), v))", "g(w, k(v, u, z, y, x))");
+    }
+
+    /** "s is none" */
+    private static void noVariableIsGreater() {
+        for (String v : new String[] {"x", "y", "z", "u", "v", "w"}) {
+            due(0, v, "a");
+            due(0, v, "b");
+            due(3, v, v);
+            due(2, v, "f(" + v + ")");
+            due(0, "g(" + v + ", b)", "g(a, b)");
+        }
+        due(0, "x", "w");
+        due(0, "w", "x");
+    }
+
+    /** "the first SYMBOL of s has the greater number", by one and by 39. */
+    private static void eachSymbolAndTheNext() {
+        TermBench bench = new TermBench();
+        for (int number = 0; number < 40; number++) {
+            bench.symbol(0, number % 3 == 0);
+            Check.keep(bench, number % 2, number);
+            if (number > 0) {
+                Check.due("order of a number and the one before", bench.order(number % 2, 1 - number % 2), 1);
+                Check.due("order of a number and the next", bench.order(1 - number % 2, number % 2), 2);
+            }
+        }
+        Check.keep(bench, 2, 0);
+        Check.due("order of 39 and 0", bench.order(1, 2), 1);
+        Check.due("order of 0 and 39", bench.order(2, 1), 2);
     }
 
     private static void firstSymbol() {
@@ -68,6 +117,27 @@ public final class Promise05OrderTest {
         due(1, "g(x, g(f(a), b))", "g(x, h(a, a))");
         due(2, "g(x, g(f(a), b))", "g(x, h(b, f(a)))");
         due(1, "f^99(b)", "f^99(a)");
+    }
+
+    private static void symbolZeroIsASymbol() {
+        TermBench bench = Check.benchWith(1, 0);
+        Check.keep(bench, 1, 0, -1);
+        Check.keep(bench, 2, 0, 1);
+        Check.keep(bench, 3, 0, 0, 1);
+        Check.due("f(x) to x", bench.order(1, 0), 1);
+        Check.due("f(c) to f(f(c))", bench.order(2, 3), 2);
+        Check.due("f(f(c)) to f(c)", bench.order(3, 2), 1);
+    }
+
+    /** The terms in them say nothing where variables, weight or symbol have spoken. */
+    private static void innerTermsDecideLast() {
+        due(2, "g(b, a)", "g(a, f(b))");
+        due(2, "f(g(b, a))", "f(g(a, f(b)))");
+        due(0, "g(b, a)", "g(a, x)");
+        due(0, "f(g(b, a))", "f(g(a, x))");
+        due(0, "g(f(x), a)", "g(x, f(y))");
+        due(2, "g(b, b)", "h(a, a)");
+        due(2, "f(g(b, b))", "f(h(a, a))");
     }
 
     private static void predicatesAreSymbolsLikeOthers() {

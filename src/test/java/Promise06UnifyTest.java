@@ -12,6 +12,7 @@ public final class Promise06UnifyTest {
         hundredCodesAtMost();
         valuesThatGrowWithoutMeasure();
         slotsThatAreUsedTwice();
+        slotsStayWhereNothingIsUnified();
         wrongSlots();
         Check.end();
     }
@@ -97,6 +98,13 @@ public final class Promise06UnifyTest {
         due("g(f^97(x), y)", "g(z, a)", true, "g(f^97(x), a)");
         dueTooLarge("g(f^97(x), y)", "g(z, f(a))", true);
         due("f^99(x)", "f^50(y)", true, "f^99(x)");
+        due("f^99(a)", "f^99(x)", true, "f^99(a)");
+        due("f^99(a)", "f^99(a)", true, "f^99(a)");
+        // That there are no values is told before that the weight is too great.
+        dueNone("f^99(a)", "f^99(b)", true);
+        dueNone("f^99(x)", "f^98(x)", false);
+        dueNone("f^98(x)", "f^98(p(a))", true);
+        dueNone("k(x, x, a, a, a)", "k(y, f^90(a), a, a, b)", true);
     }
 
     private static void valuesThatGrowWithoutMeasure() {
@@ -125,6 +133,25 @@ public final class Promise06UnifyTest {
     private static String sevens(String term) {
         String two = "g(" + term + "," + term + ")";
         return "k(" + String.join(",", term, two, term, two, term) + ")";
+    }
+
+    /** "0: there are none; -1: ... (to stays)", where to is one of the two as well. */
+    private static void slotsStayWhereNothingIsUnified() {
+        dueStay("g(a, z)", "g(b, z)", 0);
+        dueStay("g(w, w)", "g(f^49(a), v)", -1);
+        dueStay("g(k(x, y, z, u, v), w)", "g(z, g(y, w))", -1);
+    }
+
+    private static void dueStay(String a, String b, int answer) {
+        TermBench bench = Terms.bench();
+        Terms.keep(bench, 0, a);
+        Terms.keep(bench, 1, b);
+        for (int to = 0; to < 2; to++) {
+            Check.due("unify", bench.unify(to, 0, 1, true), answer);
+            Check.due("unify", bench.unify(to, 1, 0, true), answer);
+            Terms.due("a stays", bench, 0, a);
+            Terms.due("b stays", bench, 1, b);
+        }
     }
 
     private static void slotsThatAreUsedTwice() {

@@ -5,6 +5,7 @@ public final class Promise07MatchTest {
         variablesOfTheSecond();
         predicates();
         heavyTerms();
+        noneToSixVariables();
         wrongSlots();
         Check.end();
     }
@@ -54,6 +55,23 @@ public final class Promise07MatchTest {
         due(true, "x", "f^99(a)");
         due(false, "f^99(a)", "f^99(b)");
         due(false, "f^99(x)", "f^98(a)");
+        due(false, "f^98(x)", "f^97(a)");
+        due(true, "f^98(x)", "f^99(a)");
+        due(true, "g(x, x)", "g(f^48(a), f^48(a))");
+        due(false, "g(x, x)", "g(f^48(a), f^48(b))");
+        due(false, "g(x, x)", "g(f^48(a), f^49(a))");
+    }
+
+    /** "VALUES for its VARIABLES": none, one and all six. */
+    private static void noneToSixVariables() {
+        due(true, "f(a)", "f(a)");
+        due(true, "f(w)", "f(a)");
+        due(true, "g(k(x, y, z, u, v), w)", "g(k(w, v, u, z, y), x)");
+        due(true, "g(k(x, y, z, u, v), w)", "g(k(a, a, a, a, a), a)");
+        due(false, "g(k(a, a, a, a, a), w)", "g(k(a, a, a, a, x), a)");
+        due(true, "k(w, w, w, w, w)", "k(b, b, b, b, b)");
+        due(false, "k(w, w, w, w, w)", "k(b, b, b, b, a)");
+        due(false, "k(w, w, w, w, w)", "k(a, b, b, b, b)");
     }
 
     private static void wrongSlots() {

@@ -5,6 +5,8 @@ public final class Promise09ReplaceTest {
         sameSlots();
         wrongSlotsAndPlaces();
         hundredCodesAtMost();
+        hundredCodesAtMostInTheMiddle();
+        firstAndLastPlace();
         Check.end();
     }
 
@@ -53,6 +55,38 @@ public final class Promise09ReplaceTest {
             Check.dueThrow("replace at " + place, Check.NO_SUCH, () -> bench.replace(2, 0, place, 1));
         }
         Terms.due("stays", bench, 2, "x");
+    }
+
+    /** What is taken away makes room for what comes. */
+    private static void hundredCodesAtMostInTheMiddle() {
+        TermBench bench = bench();
+        Terms.keep(bench, 5, "g(f^49(a), f^48(x))");
+        Terms.keep(bench, 6, "f^49(b)");
+        Terms.keep(bench, 7, "f(a)");
+        due(bench, 8, 5, 1, 6, "g(f^49(b), f^48(x))");
+        Check.due("50 for 50", bench.replace(9, 6, 0, 6), 50);
+        Check.dueThrow("50 for 49", Check.STATE, () -> bench.replace(8, 5, 51, 6));
+        Check.dueThrow("50 for 49", Check.STATE, () -> bench.replace(8, 5, 2, 6));
+        Check.dueThrow("2 for 1", Check.STATE, () -> bench.replace(8, 5, 50, 7));
+        Check.due("2 for 2", bench.replace(9, 5, 49, 7), 100);
+        Check.due("2 for 3", bench.replace(9, 5, 48, 7), 99);
+        Terms.due("stays", bench, 8, "g(f^49(b), f^48(x))");
+    }
+
+    /** "no such SLOT or PLACE": place 0 and the last one are there, the ones beside them are not. */
+    private static void firstAndLastPlace() {
+        TermBench bench = bench();
+        due(bench, 2, 4, 0, 0, "g(f(x), y)");
+        Check.dueThrow("place 1 of a variable", Check.NO_SUCH, () -> bench.replace(2, 4, 1, 0));
+        Check.dueThrow("place -1 of a variable", Check.NO_SUCH, () -> bench.replace(2, 4, -1, 0));
+        Terms.keep(bench, 5, "f^99(x)");
+        Terms.keep(bench, 6, "a");
+        due(bench, 7, 5, 99, 6, "f^99(a)");
+        Check.dueThrow("place 100", Check.NO_SUCH, () -> bench.replace(7, 5, 100, 6));
+        due(bench, 7, 5, 0, 6, "a");
+        // The place is one of t alone, not of what is in the slot to, or comes.
+        Check.dueThrow("place 1", Check.NO_SUCH, () -> bench.replace(5, 6, 1, 5));
+        due(bench, 5, 6, 0, 5, "f^99(x)");
     }
 
     private static void hundredCodesAtMost() {

@@ -8,6 +8,8 @@ public final class Promise10RewriteTest {
         variablesAreOthers();
         predicates();
         atMostSixtyTimes();
+        atMostSixtyPlaces();
+        neverToIsT();
         aRightSideThatWouldNotFit();
         sameSlots();
         wrongSlots();
@@ -65,6 +67,16 @@ public final class Promise10RewriteTest {
         due("f(f(y))", "f(x)", "y", 0, "f(f(y))");
         due("f(f(a))", "f(y)", "y", 2, "a");
         due("f(f(a))", "f(w)", "w", 2, "a");
+        for (String v : new String[] {"x", "y", "z", "u", "v", "w"}) {
+            due("f(f(a))", "f(" + v + ")", v, 2, "a");
+            due("f(f(a))", "f(f(a))", v, 0, "f(f(a))");
+            due("k(b, b, b, b, b)", "k(b, b, b, b, b)", "g(a, " + v + ")", 0, "k(b, b, b, b, b)");
+            due("k(b, b, b, b, b)", "k(b, b, b, b, " + v + ")", "g(a, " + v + ")", 1, "g(a, b)");
+        }
+        // As many variables, but others.
+        due("k(a, a, a, a, a)", "k(x, y, z, u, v)", "g(x, w)", 0, "k(a, a, a, a, a)");
+        due("k(a, a, a, a, a)", "k(w, y, z, u, v)", "g(w, v)", 1, "g(a, a)");
+        due("g(k(a, a, a, a, a), b)", "g(k(x, y, z, u, v), w)", "k(v, w, x, y, z)", 1, "k(a, b, a, a, a)");
     }
 
     private static void variablesAreOthers() {
@@ -94,9 +106,59 @@ public final class Promise10RewriteTest {
         due("f^59(a)", "f(x)", "x", 59, "a");
     }
 
+    /** As atMostSixtyTimes, but each time at another place: the first sixty. */
+    private static void atMostSixtyPlaces() {
+        dueConstants(57, 57, 57);
+        dueConstants(61, 60, 61);
+        dueConstants(65, 60, 65);
+    }
+
+    /** Behind k's alone so many b's: each of them may become a. */
+    private static void dueConstants(int constants, int first, int inAll) {
+        TermBench bench = Terms.bench();
+        Check.keep(bench, 0, row(constants, 0));
+        Terms.keep(bench, 1, "b");
+        Terms.keep(bench, 2, "a");
+        Check.due("rewrite of " + constants, bench.rewrite(0, 0, 1, 2), first);
+        Check.dueTerm("rewrite of " + constants, bench, 0, row(constants, first));
+        Check.due("rewrite again", bench.rewrite(0, 0, 1, 2), inAll - first);
+        Check.dueTerm("rewrite again", bench, 0, row(constants, inAll));
+        Check.due("in all", bench.count(3), inAll);
+    }
+
+    private static int[] row(int constants, int ofThemA) {
+        int symbols = (constants - 1) / 4;
+        int[] codes = new int[symbols + constants];
+        for (int i = 0; i < codes.length; i++) {
+            codes[i] = i < symbols ? 5 : i < symbols + ofThemA ? 0 : 1;
+        }
+        return codes;
+    }
+
+    /** "(Never: to is t.)" Also where to was l or r, or is t itself. */
+    private static void neverToIsT() {
+        for (int to = 0; to < 4; to++) {
+            TermBench bench = Terms.bench();
+            Terms.keep(bench, 0, "g(a, x)");
+            Terms.keep(bench, 1, "f(y)");
+            Terms.keep(bench, 2, "y");
+            Terms.keep(bench, 3, "f^99(a)");
+            Check.due("rewrite", bench.rewrite(to, 0, 1, 2), 0);
+            Terms.due("never", bench, to, "g(a, x)");
+            Terms.due("t", bench, 0, "g(a, x)");
+            Check.due("in all", bench.count(3), 0);
+        }
+    }
+
     private static void aRightSideThatWouldNotFit() {
         due("f^99(a)", "f(x)", "k(k(x, x, x, x, x), x, x, x, x)", 0, "f^99(a)");
         due("f^99(a)", "x", "k(k(x, x, x, x, x), x, x, x, x)", 0, "f^99(a)");
+        // 101 codes are more than 100, though h is greater than g and all that has room is less.
+        due("h(f^49(a), f^48(a))", "h(x, y)", "g(x, x)", 0, "h(f^49(a), f^48(a))");
+        due("h(f^48(a), f^49(a))", "h(x, y)", "g(x, x)", 1, "g(f^48(a), f^48(a))");
+        due("h(f^49(a), f^48(a))", "h(x, y)", "g(y, y)", 1, "g(f^48(a), f^48(a))");
+        due("h(f^49(a), f^48(x))", "h(x, y)", "g(x, y)", 1, "g(f^49(a), f^48(x))");
+        due("h(f^49(a), f^48(x))", "h(x, y)", "g(x, f(y))", 0, "h(f^49(a), f^48(x))");
         // With the heavy value at place 0 it does not fit; with the light one further in it is less.
         due("g(g(f^13(a), b), f^40(a))", "g(x, y)", "k(y, y, y, y, y)", 1, "g(k(b, b, b, b, b), f^40(a))");
     }

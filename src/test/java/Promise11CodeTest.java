@@ -18,6 +18,19 @@ public final class Promise11CodeTest {
         Check.due("code(9, 0)", bench.code(9, 0), 0);
         Check.dueThrow("code(9, 1)", Check.NO_SUCH, () -> bench.code(9, 1));
         Check.due("code(15, 0)", bench.code(15, 0), -1);
+        Check.dueThrow("code(15, 1)", Check.NO_SUCH, () -> bench.code(15, 1));
+        Check.dueThrow("code(15, -1)", Check.NO_SUCH, () -> bench.code(15, -1));
+        heaviest();
         Check.end();
+    }
+
+    private static void heaviest() {
+        TermBench bench = Check.benchWith(1);
+        Check.keep(bench, 0, Check.chain(99, 0, -6));
+        Check.due("code(0, 0)", bench.code(0, 0), 0);
+        Check.due("code(0, 98)", bench.code(0, 98), 0);
+        Check.due("code(0, 99)", bench.code(0, 99), -6);
+        Check.dueThrow("code(0, 100)", Check.NO_SUCH, () -> bench.code(0, 100));
+        Check.dueThrow("code(0, -1)", Check.NO_SUCH, () -> bench.code(0, -1));
     }
 }

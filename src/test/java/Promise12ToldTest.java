@@ -16,6 +16,14 @@ public final class Promise12ToldTest {
         due("g(f(a), f(f(a)))", 6, 0, 4);
         due("f^99(y)", 100, 1, 100);
         due("f^99(a)", 100, 0, 100);
+        due("f^98(w)", 99, 1, 99);
+        for (String variable : new String[] {"x", "y", "z", "u", "v", "w"}) {
+            due(variable, 1, 1, 1);
+            due("k(a, " + variable + ", a, " + variable + ", b)", 6, 1, 2);
+        }
+        due("g(k(w, v, u, z, y), x)", 8, 6, 3);
+        due("g(k(w, w, u, z, y), x)", 8, 5, 3);
+        due("k(f^10(a), a, f^20(x), a, f^19(y))", 55, 2, 22);
         wrongCalls();
         Check.end();
     }

@@ -17,10 +17,49 @@ public final class Promise13CountTest {
         bench.symbol(5, true);
         due(bench, 4, 0, 1, 0);
         rewritten(bench);
+        limits();
+        theLastOfManyCalls();
         for (int what : new int[] {-1, 4, 5, Integer.MIN_VALUE, Integer.MAX_VALUE}) {
             Check.due("count(" + what + ")", bench.count(what), -1);
         }
         Check.end();
+    }
+
+    private static void limits() {
+        TermBench bench = new TermBench();
+        due(bench, 0, 0, 1, 0);
+        for (int number = 0; number < 40; number++) {
+            bench.symbol(number == 0 ? 1 : 5, false);
+        }
+        due(bench, 40, 0, 1, 0);
+        for (int i = 1; i <= 19; i++) {
+            bench.put(39);
+        }
+        due(bench, 40, 19, 77, 0);
+        for (int i = 0; i < 4; i++) {
+            bench.put(0);
+        }
+        due(bench, 40, 23, 77, 0);
+        for (int i = 0; i < 77; i++) {
+            bench.put(-1);
+        }
+        due(bench, 40, 100, 0, 0);
+        bench.keep(0);
+        due(bench, 40, 0, 1, 0);
+    }
+
+    /** "An object is used for at most 512 calls": what is counted then is as right as at first. */
+    private static void theLastOfManyCalls() {
+        TermBench bench = Check.benchWith(0, 1);
+        Check.keep(bench, 0, Check.chain(99, 1, 0));
+        Check.keep(bench, 1, 1, -1);
+        int calls = 2 + 101 + 3;
+        int times = 0;
+        for (; calls < 511; calls++) {
+            times += bench.rewrite(2, 0, 1, 3);
+        }
+        Check.due("rewritten", times, 405 * 60);
+        Check.due("the 512th call", bench.count(3), times);
     }
 
     private static void rewritten(TermBench bench) {
