@@ -53,6 +53,10 @@ public final class Promise06UnifyTest {
         due("k(x, x, y, a, a)", "k(y, f(z), f(b), a, a)", false, "k(f(b), f(b), f(b), a, a)");
         dueNone("k(x, x, y, a, a)", "k(y, f(a), f(b), a, a)", false);
         due("g(g(x, y), g(y, z))", "g(g(u, v), g(w, f(u)))", false, "g(g(x, y), g(y, f(x)))");
+        // A heavy value is met again and again before the terms that differ are.
+        dueNone("g(x, g(k(x, x, x, x, x), f^40(a)))", "g(f^40(a), g(k(x, x, x, x, x), f^40(b)))", false);
+        due("g(x, g(k(y, y, y, y, y), f^10(a)))", "g(f^10(a), g(k(y, y, y, y, x), f^10(z)))", false,
+                "g(f^10(a), g(k(" + "f^10(a),".repeat(4) + "f^10(a)), f^10(a)))");
     }
 
     private static void circles() {
