@@ -4,7 +4,7 @@ import java.util.NoSuchElementException;
  * A bench for terms of first-order logic: they are put together sign by sign, compared by an
  * order, made the same by the most general values, matched, replaced and rewritten.
  *
- * <p>A call makes no object: every row that it needs was made with the bench.
+ * <p>A call makes no object but what it throws: every row that it needs was made with the bench.
  */
 public final class TermBench {
     private static final int MOST_SYMBOLS = 40;

@@ -9,17 +9,17 @@ import java.util.TreeSet;
 /** The class has the document's face, and nothing else that another class can reach. */
 public final class FaceTest {
     private static final String[] FACE = {
-        "int symbol(int, boolean)",
-        "int put(int)",
-        "int keep(int)",
-        "int order(int, int)",
-        "int unify(int, int, int, boolean)",
-        "boolean match(int, int)",
-        "int bound(int, int)",
-        "int replace(int, int, int, int)",
-        "int rewrite(int, int, int, int)",
-        "int code(int, int)",
-        "int told(int, int)",
+        "int symbol(int, boolean) throws IllegalArgumentException, IllegalStateException",
+        "int put(int) throws NoSuchElementException, IllegalStateException",
+        "int keep(int) throws NoSuchElementException, IllegalStateException",
+        "int order(int, int) throws NoSuchElementException",
+        "int unify(int, int, int, boolean) throws NoSuchElementException",
+        "boolean match(int, int) throws NoSuchElementException",
+        "int bound(int, int) throws NoSuchElementException",
+        "int replace(int, int, int, int) throws NoSuchElementException, IllegalStateException",
+        "int rewrite(int, int, int, int) throws NoSuchElementException",
+        "int code(int, int) throws NoSuchElementException",
+        "int told(int, int) throws NoSuchElementException, IllegalArgumentException",
         "int count(int)",
     };
 
@@ -72,6 +72,10 @@ public final class FaceTest {
         for (int i = 0; i < method.getParameterCount(); i++) {
             text.append(i == 0 ? "" : ", ").append(method.getParameterTypes()[i]);
         }
-        return text.append(")").toString();
+        text.append(")");
+        for (int i = 0; i < method.getExceptionTypes().length; i++) {
+            text.append(i == 0 ? " throws " : ", ").append(method.getExceptionTypes()[i].getSimpleName());
+        }
+        return text.toString();
     }
 }
